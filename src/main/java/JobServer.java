@@ -357,13 +357,19 @@ public final class JobServer {
     private void settleTarget(int t) {
         if (isSub(t) && isSubmakeIn(STATUS_SKIPPED)) {
             finish(t, STATUS_SKIPPED);
-        } else if (isSub(t) && !isSubmakeIn(STATUS_RUNNING)) {
             return;
-        } else if (hasBadPrereq(t)) {
+        }
+        if (isSub(t) && !isSubmakeIn(STATUS_RUNNING)) {
+            return;
+        }
+        if (hasBadPrereq(t)) {
             finish(t, STATUS_SKIPPED);
-        } else if (hasUndonePrereq(t) || isStopping()) {
             return;
-        } else if (!isStale(t)) {
+        }
+        if (hasUndonePrereq(t) || isStopping()) {
+            return;
+        }
+        if (!isStale(t)) {
             finish(t, STATUS_UPTODATE);
         } else if (mayStart(t)) {
             beginRun(t);
@@ -375,8 +381,9 @@ public final class JobServer {
     }
 
     private boolean hasBadPrereq(int t) {
+        int prereqs = prereqsOf(t);
         for (int p = 0; p < targetCount; p++) {
-            if (isPrereq(t, p) && isBad(p)) {
+            if (hasBit(prereqs, p) && isBad(p)) {
                 return true;
             }
         }
@@ -384,8 +391,9 @@ public final class JobServer {
     }
 
     private boolean hasUndonePrereq(int t) {
+        int prereqs = prereqsOf(t);
         for (int p = 0; p < targetCount; p++) {
-            if (isPrereq(t, p) && !isDone(p)) {
+            if (hasBit(prereqs, p) && !isDone(p)) {
                 return true;
             }
         }

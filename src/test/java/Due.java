@@ -2,7 +2,7 @@ import java.util.function.Function;
 
 /** Compares answers with the ones that are due and prints those that differ. */
 final class Due {
-    /** Stands for a status of -1..32 targets: one more on either side than there can be. */
+    // One more on either side than there can be targets.
     private static final int FIRST = -1;
     private static final int LAST = 32;
 
@@ -77,6 +77,10 @@ final class Due {
             all.append('\n');
         }
         return all.append(x.tokensFree()).append(' ').append(x.isQuiet()).toString();
+    }
+
+    boolean anyWrong() {
+        return wrong != 0;
     }
 
     void end() {
