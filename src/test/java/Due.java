@@ -1,3 +1,7 @@
+import java.util.Arrays;
+import java.util.LinkedHashMap;
+import java.util.Map;
+import java.util.TreeSet;
 import java.util.function.Function;
 
 /** Compares answers with the ones that are due and prints those that differ. */
@@ -6,8 +10,32 @@ final class Due {
     private static final int FIRST = -1;
     private static final int LAST = 32;
 
+    // More ticks than the longest build can take: 32 targets of 15 ticks each, one by one.
+    private static final int MANY_TICKS = 600;
+
     private int asked = 0;
     private int wrong = 0;
+    private String sentence = "";
+    private int askedBefore = 0;
+
+    /** What is looked at from here on is due by these words of the document. */
+    void sentence(String words) {
+        endSentence();
+        sentence = words;
+        askedBefore = asked;
+    }
+
+    /** The same words, looked at from one more side. */
+    void sentence(String words, String side) {
+        sentence(words + " -- " + side);
+    }
+
+    private void endSentence() {
+        if (!sentence.isEmpty() && asked == askedBefore) {
+            wrong++;
+            System.out.println("[" + sentence + "] has no answer to look at");
+        }
+    }
 
     void is(String call, int got, int want) {
         same(call, "" + got, "" + want);
@@ -21,20 +49,30 @@ final class Due {
         asked++;
         if (!got.equals(want)) {
             wrong++;
-            System.out.println(call + " answered " + got + ", due is " + want);
+            System.out.println("[" + sentence + "] " + call + " answered " + got + ", due is "
+                    + want);
         }
     }
 
-    /** The call must answer as given and leave everything that can be seen as it was. */
-    void leaves(String call, JobServer x, Function<JobServer, Object> made, Object want) {
-        String before = everything(x);
+    /** The call must answer as given, and of all getters just those told may answer anew. */
+    void changes(String call, JobServer x, Function<JobServer, Object> made, Object want,
+            String... changed) {
+        Map<String, Integer> before = everything(x);
         Object got = made.apply(x);
         same(call, "" + got, "" + want);
-        same("all getters after " + call, everything(x), before);
+        Map<String, Integer> after = everything(x);
+        after.entrySet().removeAll(before.entrySet());
+        TreeSet<String> anew = new TreeSet<>();
+        after.forEach((getter, answer) -> anew.add(getter + "=" + answer));
+        same("getters changed by " + call, "" + anew, "" + new TreeSet<>(Arrays.asList(changed)));
+    }
+
+    void leaves(String call, JobServer x, Function<JobServer, Object> made, Object want) {
+        changes(call, x, made, want);
     }
 
     void refuses(String call, JobServer x, Function<JobServer, Object> made) {
-        leaves(call, x, made, false);
+        changes(call, x, made, false);
     }
 
     /** The statuses of the targets 0.., and that there are no more targets than those. */
@@ -64,19 +102,51 @@ final class Due {
         }
     }
 
-    /** All that the getters tell, so that two states can be compared at once. */
-    static String everything(JobServer x) {
-        StringBuilder all = new StringBuilder();
-        for (int t = FIRST; t <= LAST; t++) {
-            all.append(t).append(':').append(x.status(t)).append(',').append(x.timeOf(t));
-            all.append(',').append(x.commandOf(t)).append(',').append(x.level(t));
-            all.append(',').append(x.startedAt(t)).append(',').append(x.finishedAt(t)).append(' ');
-            for (int p = FIRST; p <= LAST; p++) {
-                all.append(x.prereqKind(t, p));
-            }
-            all.append('\n');
+    /**
+     * Takes both from here to the end, with all answers alike: so what no getter tells (the clock,
+     * the failure flag, the time left to a command) is alike in both as well.
+     */
+    void sameCourse(String when, JobServer x, JobServer twin) {
+        same(when + ": all getters", "" + everything(x), "" + everything(twin));
+        is(when + ": start()", x.start(), twin.start());
+        same(when + ", started: all getters", "" + everything(x), "" + everything(twin));
+        for (int tick = 0; tick < MANY_TICKS && !(x.isQuiet() && twin.isQuiet()); tick++) {
+            is(when + ": tick()", x.tick(), twin.tick());
+            same(when + ", ticked: all getters", "" + everything(x), "" + everything(twin));
         }
-        return all.append(x.tokensFree()).append(' ').append(x.isQuiet()).toString();
+        is(when + ": isQuiet() in the end", x.isQuiet(), true);
+    }
+
+    /** Ticks until nothing is left to do; a class that never gets there must not hang the test. */
+    static void toTheEnd(JobServer x) {
+        for (int tick = 0; tick < MANY_TICKS && !x.isQuiet(); tick++) {
+            x.tick();
+        }
+    }
+
+    /** Numbers that are no target of n, also such as lie a whole turn of 32 away from one. */
+    static int[] outside(int n) {
+        return new int[] {Integer.MIN_VALUE, Integer.MIN_VALUE + 1, -64, -33, -32, -31, -2, -1, n,
+            n + 1, 32, 33, n + 32, 64, 1 << 16, Integer.MAX_VALUE - 1, Integer.MAX_VALUE};
+    }
+
+    /** All that the getters tell, so that two states can be compared at once. */
+    private static Map<String, Integer> everything(JobServer x) {
+        Map<String, Integer> all = new LinkedHashMap<>();
+        for (int t = FIRST; t <= LAST; t++) {
+            all.put("status(" + t + ")", x.status(t));
+            all.put("timeOf(" + t + ")", x.timeOf(t));
+            all.put("commandOf(" + t + ")", x.commandOf(t));
+            all.put("startedAt(" + t + ")", x.startedAt(t));
+            all.put("finishedAt(" + t + ")", x.finishedAt(t));
+            all.put("level(" + t + ")", x.level(t));
+            for (int p = FIRST; p <= LAST; p++) {
+                all.put("prereqKind(" + t + ", " + p + ")", x.prereqKind(t, p));
+            }
+        }
+        all.put("tokensFree()", x.tokensFree());
+        all.put("isQuiet()", x.isQuiet() ? 1 : 0);
+        return all;
     }
 
     boolean anyWrong() {
@@ -84,6 +154,7 @@ final class Due {
     }
 
     void end() {
+        endSentence();
         System.out.println(asked + " answers looked at, " + wrong + " not as due");
         if (wrong != 0) {
             System.exit(1);

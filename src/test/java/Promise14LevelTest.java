@@ -5,32 +5,59 @@ public final class Promise14LevelTest {
     public static void main(String[] args) {
         everyLevel();
         wrongTargets();
+        theCallChangesNothing();
         due.end();
     }
 
-    private static void everyLevel() {
-        JobServer x = new JobServer(3, 1, 0);
-        due.leaves("level(1) at first", x, s -> s.level(1), JobServer.LEVEL_TOP);
+    private static JobServer withEveryLevel() {
+        JobServer x = new JobServer(32, 2, 0);
         x.setSubmake(1);
         x.setSub(2);
+        x.setSub(31);
+        return x;
+    }
+
+    private static void everyLevel() {
+        due.sentence("answers the level of t as a LEVEL_ constant");
+        due.is("level(1) at first", new JobServer(32, 2, 0).level(1), JobServer.LEVEL_TOP);
+        JobServer x = withEveryLevel();
         levelsAreTold(x);
         x.start();
         levelsAreTold(x);
-        due.ticks(x, 1, 2, -1);
+        Due.toTheEnd(x);
         levelsAreTold(x);
     }
 
     private static void levelsAreTold(JobServer x) {
-        due.leaves("level(0)", x, s -> s.level(0), JobServer.LEVEL_TOP);
-        due.leaves("level(1)", x, s -> s.level(1), JobServer.LEVEL_SUBMAKE);
-        due.leaves("level(2)", x, s -> s.level(2), JobServer.LEVEL_SUB);
+        for (int t = 0; t < 32; t++) {
+            boolean sub = t == 2 || t == 31;
+            int want = t == 1 ? JobServer.LEVEL_SUBMAKE
+                    : sub ? JobServer.LEVEL_SUB : JobServer.LEVEL_TOP;
+            due.is("level(" + t + ")", x.level(t), want);
+        }
     }
 
     private static void wrongTargets() {
-        JobServer x = new JobServer(6, 3, 1);
-        int[] wrong = {Integer.MIN_VALUE, -33, -1, 6, 7, 31, 32, Integer.MAX_VALUE};
-        for (int w : wrong) {
-            due.leaves("level(" + w + ")", x, s -> s.level(w), -1);
+        due.sentence("or -1 if t is not in 0..n-1.");
+        for (int n : new int[] {1, 6, 31, 32}) {
+            JobServer x = new JobServer(n, 3, 1);
+            for (int w : Due.outside(n)) {
+                due.leaves("level(" + w + ")", x, s -> s.level(w), -1);
+            }
+            x.setSubmake(n - 1);
+            x.start();
+            for (int w : Due.outside(n)) {
+                due.leaves("level(" + w + "), started", x, s -> s.level(w), -1);
+            }
         }
+    }
+
+    private static void theCallChangesNothing() {
+        due.sentence("Changes nothing.");
+        JobServer x = withEveryLevel();
+        for (int t = -40; t < 80; t++) {
+            x.level(t);
+        }
+        due.sameCourse("looked at and not", x, withEveryLevel());
     }
 }

@@ -1,4 +1,4 @@
-/** Promise 15: free tokens, and the conditions under which a target may start. */
+/** Promise 15: free tokens. When a target may start is tested by TermsTokensTest. */
 public final class Promise15TokensFreeTest {
     private static final Due due = new Due();
 
@@ -6,96 +6,82 @@ public final class Promise15TokensFreeTest {
         beforeStart();
         theFirstTopJobIsFree();
         theFirstSubJobIsFree();
-        bothLevelsShareTheTokens();
-        lowerIndexesGoFirstInEachPass();
-        oneTokenLimitRunsOneOfEachLevel();
+        bothLevelsTakeFromOnePool();
         givenBackWhenAJobEnds();
+        neverNegative();
+        theCallChangesNothing();
         due.end();
     }
 
     private static void beforeStart() {
+        due.sentence("Before start() this is L-1.");
         for (int limit = 1; limit <= 8; limit++) {
             JobServer x = new JobServer(3, limit, 0);
             due.leaves("tokensFree()", x, s -> s.tokensFree(), limit - 1);
+            x.setSubmake(0);
+            x.setSub(1);
+            due.leaves("tokensFree() with levels", x, s -> s.tokensFree(), limit - 1);
         }
     }
 
     private static void theFirstTopJobIsFree() {
-        for (int jobs = 1; jobs <= 8; jobs++) {
-            JobServer x = new JobServer(jobs, 4, 0);
-            x.start();
-            int want = jobs >= 4 ? 0 : 4 - jobs;
-            due.leaves("tokensFree() with " + jobs + " jobs", x, s -> s.tokensFree(), want);
+        due.sentence("max(0, r0-1)");
+        for (int limit = 1; limit <= 8; limit++) {
+            for (int jobs = 0; jobs <= 10; jobs++) {
+                JobServer x = new JobServer(11, limit, 0);
+                for (int t = jobs; t < 11; t++) {
+                    x.setTime(t, 1);
+                }
+                x.start();
+                int running = Math.min(jobs, limit);
+                int want = limit - Math.max(1, running);
+                due.is(jobs + " jobs under " + limit + ": tokensFree()", x.tokensFree(), want);
+            }
         }
     }
 
     private static void theFirstSubJobIsFree() {
-        for (int jobs = 0; jobs <= 8; jobs++) {
-            JobServer x = new JobServer(jobs + 1, 4, 0);
-            x.setSubmake(jobs);
-            for (int t = 0; t < jobs; t++) {
-                x.setSub(t);
+        due.sentence("max(0, r1-1)");
+        for (int limit = 1; limit <= 8; limit++) {
+            for (int jobs = 0; jobs <= 10; jobs++) {
+                JobServer x = new JobServer(jobs + 1, limit, 0);
+                x.setSubmake(jobs);
+                for (int t = 0; t < jobs; t++) {
+                    x.setSub(t);
+                }
+                x.start();
+                int running = Math.min(jobs, limit);
+                int want = limit - Math.max(1, running);
+                due.is(jobs + " subs under " + limit + ": tokensFree()", x.tokensFree(), want);
             }
-            x.start();
-            int want = jobs >= 4 ? 0 : jobs <= 1 ? 3 : 4 - jobs;
-            due.leaves("tokensFree() with " + jobs + " subs", x, s -> s.tokensFree(), want);
-            // Target number jobs is the running sub-make target.
-            due.is("status(3)", x.status(3), jobs >= 3 ? 1 : -1);
-            due.is("status(4)", x.status(4), jobs > 4 ? 0 : jobs == 4 ? 1 : -1);
         }
     }
 
-    private static void bothLevelsShareTheTokens() {
-        JobServer x = new JobServer(8, 4, 0);
-        x.setSubmake(0);
-        x.setSub(2);
-        x.setSub(4);
-        x.setSub(6);
-        x.setCommand(1, 2, false);
-        x.start();
-        due.statuses("at the start", x, 1, 1, 1, 1, 1, 0, 0, 0);
-        due.is("tokensFree()", x.tokensFree(), 0);
-        due.ticks(x, 3);
-        due.statuses("after a tick", x, 1, 1, 2, 2, 2, 1, 1, 1);
-        due.is("tokensFree()", x.tokensFree(), 0);
-        due.ticks(x, 5, -1);
-        due.is("tokensFree()", x.tokensFree(), 3);
-    }
-
-    /** The subs before the sub-make target are met only in the second pass, when no token is left. */
-    private static void lowerIndexesGoFirstInEachPass() {
-        JobServer x = new JobServer(6, 3, 0);
-        x.setSubmake(2);
-        x.setSub(0);
-        x.setSub(1);
-        x.setSub(5);
-        x.start();
-        due.statuses("at the start", x, 0, 0, 1, 1, 1, 1);
-        due.is("tokensFree()", x.tokensFree(), 0);
-        due.ticks(x, 3);
-        due.statuses("after a tick", x, 1, 1, 1, 2, 2, 2);
-        due.is("tokensFree()", x.tokensFree(), 1);
-        due.ticks(x, 3, -1);
-        due.startedAt(x, 1, 1, 0, 0, 0, 0);
-        due.finishedAt(x, 2, 2, 2, 1, 1, 1);
-    }
-
-    private static void oneTokenLimitRunsOneOfEachLevel() {
-        JobServer x = new JobServer(4, 1, 0);
-        x.setSubmake(1);
-        x.setSub(2);
-        x.setSub(3);
-        x.setTime(0, 1);
-        x.start();
-        due.statuses("at the start", x, 3, 1, 1, 0);
-        due.is("tokensFree()", x.tokensFree(), 0);
-        due.ticks(x, 1);
-        due.statuses("after a tick", x, 3, 1, 2, 1);
-        due.ticks(x, 2, -1);
-        due.is("tokensFree()", x.tokensFree(), 0);
+    private static void bothLevelsTakeFromOnePool() {
+        due.sentence("tokensFree = (L-1) - max(0, r0-1) - max(0, r1-1)");
+        for (int tops = 0; tops <= 3; tops++) {
+            for (int subs = 0; subs <= 4; subs++) {
+                JobServer x = new JobServer(8, 8, 0);
+                x.setSubmake(0);
+                for (int t = 1; t < 8; t++) {
+                    if (t > tops) {
+                        x.setSub(t);
+                    }
+                    if (t > tops + subs) {
+                        x.setTime(t, 1);
+                    }
+                }
+                x.start();
+                int want = 7 - tops - Math.max(0, subs - 1);
+                due.is(tops + " and " + subs + ": tokensFree()", x.tokensFree(), want);
+                Due.toTheEnd(x);
+                due.is("tokensFree() at the end", x.tokensFree(), 7);
+            }
+        }
     }
 
     private static void givenBackWhenAJobEnds() {
+        due.sentence("using the current counts r0 and r1.");
         JobServer x = new JobServer(4, 4, 1);
         x.setCommand(0, 4, false);
         x.setCommand(1, 3, true);
@@ -106,5 +92,55 @@ public final class Promise15TokensFreeTest {
             due.leaves("tokensFree() at " + tick, x, s -> s.tokensFree(), want[tick]);
             x.tick();
         }
+        JobServer nested = new JobServer(4, 4, 1);
+        nested.setSubmake(0);
+        for (int t = 1; t < 4; t++) {
+            nested.setSub(t);
+            nested.setCommand(t, 4 - t, t == 2);
+        }
+        nested.start();
+        int[] wantNested = {1, 2, 3, 3};
+        for (int tick = 0; tick < wantNested.length; tick++) {
+            due.is("tokensFree() at " + tick, nested.tokensFree(), wantNested[tick]);
+            nested.tick();
+        }
+    }
+
+    private static void neverNegative() {
+        due.sentence("The answer is never negative.");
+        for (int limit = 1; limit <= 8; limit++) {
+            for (int submake = 0; submake < 32; submake++) {
+                JobServer x = new JobServer(32, limit, 0);
+                x.setSubmake(submake);
+                for (int t = 0; t < 32; t++) {
+                    x.setCommand(t, t % 5 + 1, false);
+                    if (t % 3 != submake % 3) {
+                        x.setSub(t);
+                    }
+                }
+                x.start();
+                boolean negative = x.tokensFree() < 0;
+                for (int tick = 0; tick < 200; tick++) {
+                    x.tick();
+                    negative |= x.tokensFree() < 0;
+                }
+                due.is("tokensFree() below 0 under " + limit, negative, false);
+            }
+        }
+    }
+
+    private static void theCallChangesNothing() {
+        due.sentence("Changes nothing.");
+        JobServer x = new JobServer(9, 4, 0);
+        JobServer twin = new JobServer(9, 4, 0);
+        for (int call = 0; call < 50; call++) {
+            x.tokensFree();
+        }
+        x.start();
+        twin.start();
+        for (int call = 0; call < 50; call++) {
+            x.tokensFree();
+        }
+        due.sameCourse("looked at and not", x, twin);
     }
 }

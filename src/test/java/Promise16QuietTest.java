@@ -5,35 +5,61 @@ public final class Promise16QuietTest {
     public static void main(String[] args) {
         notBeforeStart();
         notWhileATargetRuns();
+        notWhileATargetWaits();
         notWhileOnlyTheSubmakeTargetRuns();
         everyDoneStatusIsQuiet();
         itStaysQuiet();
+        theCallChangesNothing();
         due.end();
     }
 
     private static void notBeforeStart() {
-        JobServer x = new JobServer(1, 1, 0);
-        x.setTime(0, 1);
-        due.leaves("isQuiet() before start()", x, s -> s.isQuiet(), false);
-        x.start();
-        due.leaves("isQuiet() after it", x, s -> s.isQuiet(), true);
+        due.sentence("Before start() it answers false.");
+        for (int n : new int[] {1, 32}) {
+            JobServer x = new JobServer(n, 1, 0);
+            for (int t = 0; t < n; t++) {
+                x.setTime(t, 1);
+            }
+            due.leaves("isQuiet() before start()", x, s -> s.isQuiet(), false);
+            x.tick();
+            due.leaves("isQuiet() after a refused tick()", x, s -> s.isQuiet(), false);
+            x.start();
+            due.leaves("isQuiet() after start()", x, s -> s.isQuiet(), true);
+        }
     }
 
     private static void notWhileATargetRuns() {
-        JobServer x = new JobServer(32, 1, 0);
-        for (int t = 0; t < 31; t++) {
-            x.setTime(t, 1);
+        due.sentence("answers true iff the build has started and no target is WAITING or "
+                + "RUNNING;", "RUNNING");
+        for (int runs = 0; runs < 32; runs++) {
+            JobServer x = new JobServer(32, 1, 0);
+            for (int t = 0; t < 32; t++) {
+                x.setTime(t, t == runs ? 0 : 1);
+            }
+            x.setCommand(runs, 2, runs % 2 == 0);
+            x.start();
+            due.is("isQuiet(), " + runs + " runs", x.isQuiet(), false);
+            due.ticks(x, 0);
+            due.is("isQuiet(), " + runs + " still runs", x.isQuiet(), false);
+            due.ticks(x, 1);
+            due.is("isQuiet(), " + runs + " is done", x.isQuiet(), true);
         }
-        x.setCommand(31, 2, false);
+    }
+
+    private static void notWhileATargetWaits() {
+        due.sentence("answers true iff the build has started and no target is WAITING or "
+                + "RUNNING;", "WAITING");
+        JobServer x = new JobServer(32, 1, 0);
         x.start();
-        due.leaves("isQuiet(), 31 runs", x, s -> s.isQuiet(), false);
-        due.ticks(x, 0);
-        due.leaves("isQuiet(), 31 still runs", x, s -> s.isQuiet(), false);
-        due.ticks(x, 1);
-        due.leaves("isQuiet(), 31 is remade", x, s -> s.isQuiet(), true);
+        for (int tick = 0; tick < 32; tick++) {
+            due.is("isQuiet() after " + tick + " ticks", x.isQuiet(), false);
+            x.tick();
+        }
+        due.is("isQuiet() after 32 ticks", x.isQuiet(), true);
     }
 
     private static void notWhileOnlyTheSubmakeTargetRuns() {
+        due.sentence("no target is WAITING or RUNNING", "the sub-make target alone");
         JobServer x = new JobServer(2, 1, 0);
         x.setSubmake(0);
         x.setSub(1);
@@ -46,6 +72,7 @@ public final class Promise16QuietTest {
     }
 
     private static void everyDoneStatusIsQuiet() {
+        due.sentence("that is, every target has a done status.");
         JobServer x = new JobServer(4, 4, 1);
         x.setTime(1, 1);
         x.setCommand(2, 1, true);
@@ -58,7 +85,8 @@ public final class Promise16QuietTest {
     }
 
     private static void itStaysQuiet() {
-        JobServer x = new JobServer(2, 2, 0);
+        due.sentence("Once true it stays true, since tick() is then refused.");
+        JobServer x = new JobServer(3, 2, 0);
         x.setCommand(0, 1, true);
         x.start();
         due.ticks(x, 2);
@@ -66,7 +94,26 @@ public final class Promise16QuietTest {
             due.leaves("tick()", x, s -> s.tick(), -1);
             due.refuses("start()", x, s -> s.start());
             due.refuses("setTime(0, 5)", x, s -> s.setTime(0, 5));
+            due.refuses("setCommand(0, 5)", x, s -> s.setCommand(0, 5, false));
+            due.refuses("addPrereq(0, 1)", x, s -> s.addPrereq(0, 1, false));
+            due.refuses("setSubmake(0)", x, s -> s.setSubmake(0));
+            due.refuses("setSub(0)", x, s -> s.setSub(0));
             due.leaves("isQuiet()", x, s -> s.isQuiet(), true);
         }
+    }
+
+    private static void theCallChangesNothing() {
+        due.sentence("Changes nothing.");
+        JobServer x = new JobServer(5, 2, 0);
+        JobServer twin = new JobServer(5, 2, 0);
+        for (int call = 0; call < 50; call++) {
+            x.isQuiet();
+        }
+        x.start();
+        twin.start();
+        for (int call = 0; call < 50; call++) {
+            x.isQuiet();
+        }
+        due.sameCourse("looked at and not", x, twin);
     }
 }
