@@ -1,6 +1,4 @@
 import java.util.Arrays;
-import java.util.LinkedHashMap;
-import java.util.Map;
 import java.util.TreeSet;
 import java.util.function.Function;
 
@@ -9,6 +7,11 @@ final class Due {
     // One more on either side than there can be targets.
     private static final int FIRST = -1;
     private static final int LAST = 32;
+    private static final int WIDTH = LAST - FIRST + 1;
+
+    private static final String[] GETTERS = {"status", "timeOf", "commandOf", "startedAt",
+        "finishedAt", "level"};
+    private static final int PER_TARGET = GETTERS.length + WIDTH;
 
     // More ticks than the longest build can take: 32 targets of 15 ticks each, one by one.
     private static final int MANY_TICKS = 600;
@@ -57,13 +60,10 @@ final class Due {
     /** The call must answer as given, and of all getters just those told may answer anew. */
     void changes(String call, JobServer x, Function<JobServer, Object> made, Object want,
             String... changed) {
-        Map<String, Integer> before = everything(x);
+        int[] before = everything(x);
         Object got = made.apply(x);
         same(call, "" + got, "" + want);
-        Map<String, Integer> after = everything(x);
-        after.entrySet().removeAll(before.entrySet());
-        TreeSet<String> anew = new TreeSet<>();
-        after.forEach((getter, answer) -> anew.add(getter + "=" + answer));
+        TreeSet<String> anew = differences(before, everything(x));
         same("getters changed by " + call, "" + anew, "" + new TreeSet<>(Arrays.asList(changed)));
     }
 
@@ -107,14 +107,19 @@ final class Due {
      * the failure flag, the time left to a command) is alike in both as well.
      */
     void sameCourse(String when, JobServer x, JobServer twin) {
-        same(when + ": all getters", "" + everything(x), "" + everything(twin));
+        alike(when, x, twin);
         is(when + ": start()", x.start(), twin.start());
-        same(when + ", started: all getters", "" + everything(x), "" + everything(twin));
+        alike(when + ", started", x, twin);
         for (int tick = 0; tick < MANY_TICKS && !(x.isQuiet() && twin.isQuiet()); tick++) {
             is(when + ": tick()", x.tick(), twin.tick());
-            same(when + ", ticked: all getters", "" + everything(x), "" + everything(twin));
+            alike(when + ", ticked", x, twin);
         }
         is(when + ": isQuiet() in the end", x.isQuiet(), true);
+    }
+
+    private void alike(String when, JobServer x, JobServer twin) {
+        TreeSet<String> apart = differences(everything(twin), everything(x));
+        same(when + ": getters that differ", "" + apart, "[]");
     }
 
     /** Ticks until nothing is left to do; a class that never gets there must not hang the test. */
@@ -131,22 +136,45 @@ final class Due {
     }
 
     /** All that the getters tell, so that two states can be compared at once. */
-    private static Map<String, Integer> everything(JobServer x) {
-        Map<String, Integer> all = new LinkedHashMap<>();
+    private static int[] everything(JobServer x) {
+        int[] all = new int[WIDTH * PER_TARGET + 2];
+        int at = 0;
         for (int t = FIRST; t <= LAST; t++) {
-            all.put("status(" + t + ")", x.status(t));
-            all.put("timeOf(" + t + ")", x.timeOf(t));
-            all.put("commandOf(" + t + ")", x.commandOf(t));
-            all.put("startedAt(" + t + ")", x.startedAt(t));
-            all.put("finishedAt(" + t + ")", x.finishedAt(t));
-            all.put("level(" + t + ")", x.level(t));
+            all[at++] = x.status(t);
+            all[at++] = x.timeOf(t);
+            all[at++] = x.commandOf(t);
+            all[at++] = x.startedAt(t);
+            all[at++] = x.finishedAt(t);
+            all[at++] = x.level(t);
             for (int p = FIRST; p <= LAST; p++) {
-                all.put("prereqKind(" + t + ", " + p + ")", x.prereqKind(t, p));
+                all[at++] = x.prereqKind(t, p);
             }
         }
-        all.put("tokensFree()", x.tokensFree());
-        all.put("isQuiet()", x.isQuiet() ? 1 : 0);
+        all[at++] = x.tokensFree();
+        all[at] = x.isQuiet() ? 1 : 0;
         return all;
+    }
+
+    private static TreeSet<String> differences(int[] before, int[] after) {
+        TreeSet<String> anew = new TreeSet<>();
+        for (int at = 0; at < after.length; at++) {
+            if (before[at] != after[at]) {
+                anew.add(getter(at) + "=" + after[at]);
+            }
+        }
+        return anew;
+    }
+
+    private static String getter(int at) {
+        int target = at / PER_TARGET + FIRST;
+        int column = at % PER_TARGET;
+        if (target > LAST) {
+            return column == 0 ? "tokensFree()" : "isQuiet()";
+        }
+        if (column < GETTERS.length) {
+            return GETTERS[column] + "(" + target + ")";
+        }
+        return "prereqKind(" + target + ", " + (column - GETTERS.length + FIRST) + ")";
     }
 
     boolean anyWrong() {

@@ -1,6 +1,8 @@
 import java.io.IOException;
 import java.nio.file.Files;
 import java.nio.file.Path;
+import java.util.LinkedHashMap;
+import java.util.Map;
 import java.util.regex.Matcher;
 import java.util.regex.Pattern;
 
@@ -19,6 +21,14 @@ public final class LanguageTest {
         none(code, "(?m)^(?! {4}private final ).*\\bnew\\b", "array made outside a field");
         none(code, "\\bstatic\\s*\\{", "static initialiser");
         noCallInsideArguments(code);
+        everyLoopCounts(code);
+        fewFields(code);
+        Map<String, String> bodies = methodBodies(code);
+        for (String name : bodies.keySet()) {
+            int lines = bodies.get(name).split("\n").length;
+            due.is(name + " of more than 60 lines", lines > 60, false);
+            due.is(name + " with calls more than six deep", depth(bodies, name, 1) > 6, false);
+        }
         due.end();
     }
 
@@ -54,5 +64,53 @@ public final class LanguageTest {
             at++;
         }
         return at - 1;
+    }
+
+    /** Stricter than the rule asks, but so the end of each loop can be read off its first line. */
+    private static void everyLoopCounts(String code) {
+        noWord(code, "while|do");
+        Pattern counted = Pattern.compile("for \\(int (\\w+) = 0; (\\w+ && )?\\1 <=? "
+                + "(MAX_TARGETS|targetCount); \\1\\+\\+\\) \\{");
+        Matcher loop = Pattern.compile("\\bfor\\b.*").matcher(code);
+        while (loop.find()) {
+            due.is(loop.group(), counted.matcher(loop.group()).matches(), true);
+        }
+    }
+
+    private static void fewFields(String code) {
+        int fields = 0;
+        Matcher field = Pattern.compile("(?m)^ {4}private (?!static)[^(]*;$").matcher(code);
+        while (field.find()) {
+            fields++;
+        }
+        due.is("no field found", fields == 0, false);
+        due.is("more than 40 fields", fields > 40, false);
+    }
+
+    private static Map<String, String> methodBodies(String code) {
+        Map<String, String> bodies = new LinkedHashMap<>();
+        Pattern method = Pattern.compile("(?ms)^ {4}(?:public|private)[^=;(]*?(\\w+)\\(([^)]*)\\) "
+                + "\\{$(.*?)^ {4}\\}$");
+        Matcher matcher = method.matcher(code);
+        while (matcher.find()) {
+            String name = matcher.group(1);
+            due.is(name + " declared twice", bodies.containsKey(name), false);
+            due.is(name + " of many parameters", matcher.group(2).split(",").length > 7, false);
+            bodies.put(name, matcher.group(3));
+        }
+        due.is("start() found", bodies.containsKey("start"), true);
+        return bodies;
+    }
+
+    /** Stops a little beyond the six that are allowed, so that recursion ends as well. */
+    private static int depth(Map<String, String> bodies, String name, int sofar) {
+        int deepest = sofar;
+        for (String called : bodies.keySet()) {
+            Pattern call = Pattern.compile("\\b" + called + "\\(");
+            if (sofar <= 6 && call.matcher(bodies.get(name)).find()) {
+                deepest = Math.max(deepest, depth(bodies, called, sofar + 1));
+            }
+        }
+        return deepest;
     }
 }

@@ -9,6 +9,7 @@ public final class TermsSettleTest {
         asManyPassesAsThereCanBe();
         aPassGoesUpwards();
         rule1SkipsSubsAtOnce();
+        rule1IsForSubsAlone();
         rule1GoesBeforeAllOthers();
         rule2LetsSubsWait();
         rule3SkipsOverEitherKind();
@@ -146,6 +147,24 @@ public final class TermsSettleTest {
             due.finishedAt(x, 2, 0, 2, 2, 2, -1);
             due.startedAt(x, -1, -1, -1, -1, 0, 0);
         }
+    }
+
+    private static void rule1IsForSubsAlone() {
+        due.sentence("t is sub and the sub-make target is SKIPPED", "top targets go on");
+        JobServer x = new JobServer(6, 1, 1);
+        x.setSubmake(1);
+        x.setSub(2);
+        x.addPrereq(1, 0, false);
+        x.setCommand(0, 1, true);
+        x.setTime(4, 1);
+        x.addPrereq(4, 3, true);
+        x.start();
+        due.statuses("at the start", x, 1, 0, 0, 0, 0, 0);
+        due.ticks(x, 1);
+        due.statuses("the sub-make target is skipped", x, 4, 5, 5, 1, 0, 0);
+        due.ticks(x, 1, 1, -1);
+        due.statuses("at the end", x, 4, 5, 5, 2, 3, 2);
+        due.finishedAt(x, 1, 1, 1, 2, 2, 3);
     }
 
     /** The sub targets are up to date or wait for one another: rules 4, 5 and 6 would apply too. */

@@ -3,9 +3,15 @@ public final class TermsTargetsTest {
     private static final Due due = new Due();
 
     public static void main(String[] args) {
+        oneSubmakeTargetAtMost();
+        topLevelIsBothOfThem();
         zeroMeansMissing();
         oneToMaxTimeIsAnInitialTime();
         remadeIsNewerThanAnyInitialTime();
+        theShortestAndTheLongestCommand();
+        theDefaultCommand();
+        theSubmakeCommand();
+        bothTopLevelOrBothSub();
         goodDoneStatusesLetOthersOn();
         badDoneStatusesDoNot();
         theFlagIsSetByATopCommand();
@@ -13,6 +19,34 @@ public final class TermsTargetsTest {
         theFlagStandsWithAFailedSubmakeTarget();
         nothingClearsTheFlag();
         due.end();
+    }
+
+    private static void oneSubmakeTargetAtMost() {
+        due.sentence("LEVEL_SUBMAKE (the single top target whose command is the sub-build).");
+        JobServer x = new JobServer(32, 1, 0);
+        for (int t = 31; t >= 0; t--) {
+            due.is("setSubmake(" + t + ")", x.setSubmake(t), t == 31);
+        }
+        for (int t = 0; t < 32; t++) {
+            int want = t == 31 ? JobServer.LEVEL_SUBMAKE : JobServer.LEVEL_TOP;
+            due.is("level(" + t + ")", x.level(t), want);
+        }
+    }
+
+    private static void topLevelIsBothOfThem() {
+        due.sentence("LEVEL_TOP and LEVEL_SUBMAKE together are called top-level; LEVEL_SUB targets "
+                + "are called sub targets.");
+        JobServer x = new JobServer(4, 2, 0);
+        x.setSubmake(1);
+        x.setSub(2);
+        due.is("top over sub-make", x.addPrereq(3, 1, true), true);
+        due.is("sub-make over top", x.addPrereq(1, 0, true), true);
+        due.is("top over sub", x.addPrereq(3, 2, true), false);
+        x.start();
+        due.statuses("0 runs", x, 1, 0, 0, 0);
+        due.ticks(x, 1);
+        due.statuses("the sub-make target runs, and its sub target", x, 2, 1, 1, 0);
+        due.is("tokensFree(), each being the first of its level", x.tokensFree(), 1);
     }
 
     private static void zeroMeansMissing() {
@@ -50,6 +84,73 @@ public final class TermsTargetsTest {
         due.statuses("0 is older than what was remade in the first tick", x, 1, 2);
         due.ticks(x, 1, -1);
         due.is("timeOf(0)", x.timeOf(0), JobServer.MAX_TIME + 2);
+    }
+
+    private static void theShortestAndTheLongestCommand() {
+        due.sentence("a duration of 1..MAX_DURATION ticks and a flag telling whether it fails.");
+        JobServer x = new JobServer(4, 4, 1);
+        due.is("setCommand(0)", x.setCommand(0, 1, false), true);
+        due.is("setCommand(1)", x.setCommand(1, 1, true), true);
+        due.is("setCommand(2)", x.setCommand(2, JobServer.MAX_DURATION, false), true);
+        due.is("setCommand(3)", x.setCommand(3, JobServer.MAX_DURATION, true), true);
+        x.start();
+        due.ticks(x, 2, 0, 0, 0, 0, 0, 0, 0, 0, 0, 0, 0, 0, 0, 2, -1);
+        due.statuses("at the end", x, 2, 4, 2, 4);
+        due.finishedAt(x, 1, 1, 15, 15);
+    }
+
+    private static void theDefaultCommand() {
+        due.sentence("The default is duration 1, succeeds.");
+        JobServer x = new JobServer(3, 1, 0);
+        x.setSubmake(1);
+        x.setSub(2);
+        for (int t = 0; t < 3; t++) {
+            due.is("commandOf(" + t + ")", x.commandOf(t), 1);
+        }
+        x.start();
+        due.ticks(x, 1, 2, -1);
+        due.statuses("at the end", x, 2, 2, 2);
+    }
+
+    private static void theSubmakeCommand() {
+        due.sentence("The sub-make target's command is stored but never used.");
+        JobServer x = new JobServer(2, 1, 0);
+        x.setCommand(0, 15, true);
+        x.setSubmake(0);
+        x.setSub(1);
+        x.setCommand(1, 3, false);
+        due.is("commandOf(0)", x.commandOf(0), 31);
+        x.start();
+        due.ticks(x, 0, 0, 2, -1);
+        due.statuses("at the end", x, 2, 2);
+        due.is("commandOf(0)", x.commandOf(0), 31);
+    }
+
+    private static void bothTopLevelOrBothSub() {
+        due.sentence("A target and its prerequisite are both top-level or both sub.");
+        JobServer x = new JobServer(8, 1, 0);
+        x.addPrereq(1, 0, false);
+        x.setSubmake(3);
+        for (int t = 0; t < 6; t++) {
+            due.is("setSub(" + t + ")", x.setSub(t), t == 2 || t == 4 || t == 5);
+        }
+        for (int t = 0; t < 8; t++) {
+            for (int p = 0; p < 8; p++) {
+                x.addPrereq(t, p, p % 2 == 0);
+                boolean mixed = isSub(x, t) != isSub(x, p);
+                boolean edge = x.prereqKind(t, p) != JobServer.KIND_NONE;
+                due.is("a mixed edge from " + t + " to " + p, mixed && edge, false);
+            }
+        }
+        due.is("an edge of the top", x.prereqKind(3, 6), JobServer.KIND_ORDER_ONLY);
+        due.is("an edge of the sub-build", x.prereqKind(2, 4), JobServer.KIND_ORDER_ONLY);
+        for (int t = 0; t < 8; t++) {
+            due.is("setSub(" + t + ") with edges", x.setSub(t), false);
+        }
+    }
+
+    private static boolean isSub(JobServer x, int t) {
+        return x.level(t) == JobServer.LEVEL_SUB;
     }
 
     private static void goodDoneStatusesLetOthersOn() {

@@ -3,6 +3,8 @@ public final class TermsTokensTest {
     private static final Due due = new Due();
 
     public static void main(String[] args) {
+        runningTopTargetsAreCounted();
+        runningSubTargetsAreCounted();
         theFirstTopTargetNeedsNoToken();
         furtherTopTargetsNeedAToken();
         theFirstSubTargetNeedsNoToken();
@@ -13,6 +15,41 @@ public final class TermsTokensTest {
         lowerIndexesGoFirstInEachPass();
         noMoreThanTheLimitRun();
         due.end();
+    }
+
+    private static void runningTopTargetsAreCounted() {
+        due.sentence("r0 is the number of top-level targets that are RUNNING");
+        JobServer top = new JobServer(8, 4, 1);
+        someOfEachStatus(top);
+        top.start();
+        top.tick();
+        due.statuses("after a tick", top, 1, 4, 5, 3, 2, 1, 0, 1);
+        due.is("tokensFree() with 3 running", top.tokensFree(), 1);
+    }
+
+    private static void runningSubTargetsAreCounted() {
+        due.sentence("r1 is the number of sub targets that are RUNNING.");
+        JobServer sub = new JobServer(9, 4, 1);
+        sub.setSubmake(8);
+        for (int t = 0; t < 8; t++) {
+            sub.setSub(t);
+        }
+        someOfEachStatus(sub);
+        sub.start();
+        sub.tick();
+        due.statuses("after a tick", sub, 1, 4, 5, 3, 2, 1, 0, 1, 1);
+        due.is("tokensFree() with 3 running and the sub-make target", sub.tokensFree(), 1);
+    }
+
+    /** After a tick the done statuses and WAITING are all there beside RUNNING. */
+    private static void someOfEachStatus(JobServer x) {
+        x.setCommand(0, 5, false);
+        x.setCommand(1, 1, true);
+        x.addPrereq(2, 1, false);
+        x.setTime(3, 1);
+        x.setCommand(5, 5, false);
+        x.addPrereq(6, 0, false);
+        x.setCommand(7, 5, false);
     }
 
     private static void theFirstTopTargetNeedsNoToken() {
