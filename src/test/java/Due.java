@@ -16,6 +16,9 @@ final class Due {
     // More ticks than the longest build can take: 32 targets of 15 ticks each, one by one.
     private static final int MANY_TICKS = 600;
 
+    // More ticks than a busy build takes.
+    private static final int BUSY_TICKS = 60;
+
     private int asked = 0;
     private int wrong = 0;
     private String sentence = "";
@@ -115,6 +118,46 @@ final class Due {
             alike(when + ", ticked", x, twin);
         }
         is(when + ": isQuiet() in the end", x.isQuiet(), true);
+    }
+
+    /** The call, made again and again while a build runs, must leave its course as it is. */
+    void leavesCourse(String call, Function<JobServer, Object> made) {
+        for (int kind = 0; kind < 4; kind++) {
+            JobServer x = busyBuild(kind % 2, kind / 2 == 1);
+            JobServer twin = busyBuild(kind % 2, kind / 2 == 1);
+            is(call + ": start()", x.start(), twin.start());
+            for (int tick = 0; tick < BUSY_TICKS; tick++) {
+                made.apply(x);
+                is(call + ": tick()", x.tick(), twin.tick());
+            }
+            is(call + ": isQuiet() in the end", x.isQuiet(), true);
+            alike(call, x, twin);
+        }
+    }
+
+    /** All statuses, both kinds of edges, commands that fail; 11 is a target without edges. */
+    private static JobServer busyBuild(int keepGoing, boolean nested) {
+        JobServer x = new JobServer(12, 3, keepGoing);
+        if (nested) {
+            x.setSubmake(4);
+            x.setSub(5);
+            x.setSub(6);
+            x.setSub(7);
+        }
+        x.setCommand(0, 2, false);
+        x.setCommand(1, 4, false);
+        x.addPrereq(2, 1, true);
+        x.setTime(2, 3);
+        x.addPrereq(3, 2, false);
+        x.addPrereq(4, 0, false);
+        x.setCommand(5, 6, false);
+        x.setCommand(6, 3, true);
+        x.addPrereq(7, 5, true);
+        x.setCommand(8, 7, true);
+        x.addPrereq(9, 8, true);
+        x.setCommand(10, 5, false);
+        x.setCommand(11, 2, false);
+        return x;
     }
 
     private void alike(String when, JobServer x, JobServer twin) {

@@ -46,6 +46,8 @@ public final class Promise02AddPrereqTest {
         due.refuses("addPrereq in the midst", x, s -> s.addPrereq(3, 2, true));
         due.ticks(x, 1, 1, 1, -1);
         due.refuses("addPrereq when quiet", x, s -> s.addPrereq(3, 2, true));
+        due.leavesCourse("addPrereq(11, 8, false)", s -> s.addPrereq(11, 8, false));
+        due.leavesCourse("addPrereq(7, 6, true)", s -> s.addPrereq(7, 6, true));
     }
 
     private static void wrongTargetsAreRefused() {
@@ -263,25 +265,27 @@ public final class Promise02AddPrereqTest {
 
     private static void refusedCallsChangeNothing() {
         due.sentence("A refused call changes nothing.");
-        JobServer x = withSomeEdges();
-        for (int w : Due.outside(6)) {
-            x.addPrereq(w, 0, false);
-            x.addPrereq(0, w, false);
+        for (int keepGoing = 0; keepGoing <= 1; keepGoing++) {
+            JobServer x = withSomeEdges(keepGoing);
+            for (int w : Due.outside(6)) {
+                x.addPrereq(w, 0, false);
+                x.addPrereq(0, w, false);
+            }
+            x.addPrereq(5, 5, false);
+            x.addPrereq(4, 5, false);
+            x.addPrereq(5, 4, true);
+            x.addPrereq(1, 0, true);
+            x.addPrereq(2, 1, false);
+            x.addPrereq(0, 2, false);
+            due.is("what a refused edge would close", x.addPrereq(2, 0, true), true);
+            JobServer twin = withSomeEdges(keepGoing);
+            twin.addPrereq(2, 0, true);
+            due.sameCourse("with refused edges and without", x, twin);
         }
-        x.addPrereq(5, 5, false);
-        x.addPrereq(4, 5, false);
-        x.addPrereq(5, 4, true);
-        x.addPrereq(1, 0, true);
-        x.addPrereq(2, 1, false);
-        x.addPrereq(0, 2, false);
-        due.is("what a refused edge would close", x.addPrereq(2, 0, true), true);
-        JobServer twin = withSomeEdges();
-        twin.addPrereq(2, 0, true);
-        due.sameCourse("with refused edges and without", x, twin);
     }
 
-    private static JobServer withSomeEdges() {
-        JobServer x = new JobServer(6, 2, 1);
+    private static JobServer withSomeEdges(int keepGoing) {
+        JobServer x = new JobServer(6, 2, keepGoing);
         x.setSubmake(3);
         x.setSub(4);
         x.addPrereq(1, 0, false);
@@ -294,7 +298,11 @@ public final class Promise02AddPrereqTest {
 
     private static void noOtherStateChanges() {
         due.sentence("No other state changes in either case.");
-        JobServer x = withSomeEdges();
+        JobServer x = withSomeEdges(0);
+        x.setTime(5, 9);
+        x.setCommand(5, 3, true);
+        x.setTime(3, 8);
+        x.setCommand(3, 4, true);
         due.changes("accepted, NORMAL", x, s -> s.addPrereq(5, 0, false), true,
                 "prereqKind(5, 0)=1");
         due.changes("accepted, ORDER_ONLY", x, s -> s.addPrereq(3, 0, true), true,

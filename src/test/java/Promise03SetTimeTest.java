@@ -29,6 +29,8 @@ public final class Promise03SetTimeTest {
         due.refuses("setTime on a WAITING one", x, s -> s.setTime(2, 7));
         due.ticks(x, 1, 1, -1);
         due.refuses("setTime on a REMADE one", x, s -> s.setTime(1, 7));
+        due.leavesCourse("setTime(11, 5)", s -> s.setTime(11, 5));
+        due.leavesCourse("setTime(8, 0)", s -> s.setTime(8, 0));
     }
 
     private static void wrongTargetsAreRefused() {

@@ -31,6 +31,8 @@ public final class Promise04SetCommandTest {
         due.ticks(x, 1, 1, -1);
         due.refuses("setCommand when quiet", x, s -> s.setCommand(1, 3, true));
         due.statuses("at the end", x, 2, 2, 3);
+        due.leavesCourse("setCommand(11, 3, true)", s -> s.setCommand(11, 3, true));
+        due.leavesCourse("setCommand(8, 1, false)", s -> s.setCommand(8, 1, false));
     }
 
     private static void wrongTargetsAreRefused() {
@@ -59,7 +61,7 @@ public final class Promise04SetCommandTest {
     private static void theCommandIsReplaced() {
         due.sentence("Otherwise the command is replaced and the call answers true.");
         JobServer x = new JobServer(32, 1, 0);
-        for (int duration = 1; duration <= MAX; duration++) {
+        for (int duration = MAX; duration >= 1; duration--) {
             int d = duration;
             due.changes("setCommand(0), fails", x, s -> s.setCommand(0, d, true), true,
                     "commandOf(0)=" + (d + 16));
@@ -156,20 +158,22 @@ public final class Promise04SetCommandTest {
 
     private static void refusedCallsChangeNothing() {
         due.sentence("A refused call changes nothing;");
-        JobServer x = withSomeCommands();
-        for (int w : Due.outside(4)) {
-            x.setCommand(w, 3, true);
-        }
-        for (int w : WRONG_DURATIONS) {
-            for (int t = 0; t < 4; t++) {
-                x.setCommand(t, w, t % 2 == 0);
+        for (int keepGoing = 0; keepGoing <= 1; keepGoing++) {
+            JobServer x = withSomeCommands(keepGoing);
+            for (int w : Due.outside(4)) {
+                x.setCommand(w, 3, true);
             }
+            for (int w : WRONG_DURATIONS) {
+                for (int t = 0; t < 4; t++) {
+                    x.setCommand(t, w, t % 2 == 0);
+                }
+            }
+            due.sameCourse("with refused ones and without", x, withSomeCommands(keepGoing));
         }
-        due.sameCourse("with refused commands and without", x, withSomeCommands());
     }
 
-    private static JobServer withSomeCommands() {
-        JobServer x = new JobServer(4, 2, 1);
+    private static JobServer withSomeCommands(int keepGoing) {
+        JobServer x = new JobServer(4, 2, keepGoing);
         x.setCommand(0, 3, false);
         x.setCommand(1, MAX, true);
         x.setCommand(2, 1, false);

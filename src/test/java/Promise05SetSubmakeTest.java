@@ -40,6 +40,7 @@ public final class Promise05SetSubmakeTest {
         due.refuses("setSubmake of a WAITING one", x, s -> s.setSubmake(1));
         due.ticks(x, 1, 1, -1);
         due.refuses("setSubmake when quiet", x, s -> s.setSubmake(1));
+        due.leavesCourse("setSubmake(11)", s -> s.setSubmake(11));
     }
 
     private static void wrongTargetsAreRefused() {

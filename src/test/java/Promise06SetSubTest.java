@@ -43,6 +43,7 @@ public final class Promise06SetSubTest {
         due.refuses("setSub of a RUNNING one", x, s -> s.setSub(1));
         due.ticks(x, 1, 1, -1);
         due.refuses("setSub when quiet", x, s -> s.setSub(2));
+        due.leavesCourse("setSub(11)", s -> s.setSub(11));
     }
 
     private static void wrongTargetsAreRefused() {

@@ -48,6 +48,7 @@ public final class Promise07StartTest {
             }
             due.sameCourse("with refused starts and without", x, twin);
         }
+        due.leavesCourse("start()", s -> s.start());
     }
 
     private static JobServer withAFailure(int keepGoing) {

@@ -71,5 +71,7 @@ public final class Promise09StatusTest {
             x.status(call % 7);
         }
         due.sameCourse("looked at and not", x, withEveryStatus());
+        due.leavesCourse("status", s -> s.status(8));
+        due.leavesCourse("status of no target", s -> s.status(12));
     }
 }

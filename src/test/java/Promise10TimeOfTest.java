@@ -102,5 +102,7 @@ public final class Promise10TimeOfTest {
         JobServer twin = new JobServer(3, 1, 0);
         twin.setTime(1, 4);
         due.sameCourse("looked at and not", x, twin);
+        due.leavesCourse("timeOf", s -> s.timeOf(8));
+        due.leavesCourse("timeOf of no target", s -> s.timeOf(12));
     }
 }

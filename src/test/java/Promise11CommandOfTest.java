@@ -87,5 +87,7 @@ public final class Promise11CommandOfTest {
         JobServer twin = new JobServer(3, 1, 0);
         twin.setCommand(1, 4, false);
         due.sameCourse("looked at and not", x, twin);
+        due.leavesCourse("commandOf", s -> s.commandOf(8));
+        due.leavesCourse("commandOf of no target", s -> s.commandOf(12));
     }
 }

@@ -167,5 +167,9 @@ public final class Promise12StartFinishTest {
         twin.start();
         twin.tick();
         due.sameCourse("looked at and not", x, twin);
+        due.leavesCourse("startedAt", s -> s.startedAt(8));
+        due.leavesCourse("startedAt of no target", s -> s.startedAt(12));
+        due.leavesCourse("finishedAt", s -> s.finishedAt(8));
+        due.leavesCourse("finishedAt of no target", s -> s.finishedAt(12));
     }
 }

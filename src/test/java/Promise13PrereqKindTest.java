@@ -116,5 +116,7 @@ public final class Promise13PrereqKindTest {
             }
         }
         due.sameCourse("looked at and not", x, withAllEdges(5));
+        due.leavesCourse("prereqKind", s -> s.prereqKind(9, 8));
+        due.leavesCourse("prereqKind of no target", s -> s.prereqKind(9, 12));
     }
 }

@@ -59,5 +59,7 @@ public final class Promise14LevelTest {
             x.level(t);
         }
         due.sameCourse("looked at and not", x, withEveryLevel());
+        due.leavesCourse("level", s -> s.level(6));
+        due.leavesCourse("level of no target", s -> s.level(12));
     }
 }

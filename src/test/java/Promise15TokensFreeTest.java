@@ -142,5 +142,23 @@ public final class Promise15TokensFreeTest {
             x.tokensFree();
         }
         due.sameCourse("looked at and not", x, twin);
+        due.leavesCourse("tokensFree", s -> s.tokensFree());
+        lookedAtWhileItRuns(false, 2, 2, 2);
+        lookedAtWhileItRuns(true, 4, 2, 5);
+    }
+
+    /** The class itself may use the call in tick(), so a twin alone does not tell enough. */
+    private static void lookedAtWhileItRuns(boolean fails, int... statuses) {
+        JobServer x = new JobServer(3, 2, 0);
+        x.setCommand(0, 1, fails);
+        x.setCommand(1, 3, false);
+        x.setCommand(2, 2, false);
+        x.start();
+        for (int tick = 0; tick < 3; tick++) {
+            x.tokensFree();
+            x.tick();
+        }
+        due.statuses("at the end", x, statuses);
+        due.finishedAt(x, 1, 3, 3);
     }
 }
