@@ -55,8 +55,8 @@ final class Due {
         asked++;
         if (!got.equals(want)) {
             wrong++;
-            System.out.println("[" + sentence + "] " + call + " answered " + got + ", due is "
-                    + want);
+            String words = sentence.isEmpty() ? "" : "[" + sentence + "] ";
+            System.out.println(words + call + " answered " + got + ", due is " + want);
         }
     }
 

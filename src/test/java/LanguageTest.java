@@ -17,8 +17,12 @@ public final class LanguageTest {
         noWord(code, "float|double|String|Object|Math|Integer|Long|System|Arrays|null|var");
         noWord(code, "throw|throws|try|catch|finally|synchronized|assert|instanceof|volatile");
         noWord(code, "protected|native|abstract");
+        noWord(code, "equals|hashCode|toString|getClass|clone|finalize|notify|notifyAll|wait");
+        none(code, "\\.", "dot, which would name a member of another class");
         none(code, "->|::|\\[\\]\\s*\\[|\"", "lambda, method reference, two dimensions or text");
         none(code, "(?m)^(?! {4}private final ).*\\bnew\\b", "array made outside a field");
+        none(code, "\\bnew\\b(?! (int|boolean)\\[MAX_\\w+\\];).*", "array of another length");
+        none(code, "(?m)^ {4}(public|private)[^=;(]*\\[\\][^=;(]*\\(", "method answering an array");
         none(code, "\\bstatic\\s*\\{", "static initialiser");
         noCallInsideArguments(code);
         everyLoopCounts(code);

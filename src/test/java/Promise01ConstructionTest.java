@@ -10,6 +10,7 @@ public final class Promise01ConstructionTest {
         tooFewTokensBecomeOne();
         tooManyTokensBecome8();
         otherLimitsOfTokensAreTaken();
+        keepGoingHasTwoModes();
         positiveKeepGoingIsOn();
         otherKeepGoingIsOff();
         targetsAtFirst();
@@ -109,6 +110,13 @@ public final class Promise01ConstructionTest {
         for (int asked : others) {
             keepGoing(asked, JobServer.STATUS_SKIPPED);
         }
+    }
+
+    private static void keepGoingHasTwoModes() {
+        due.sentence("keepGoing is clamped into 0..1; a result of 1 turns keep-going mode on, 0 "
+                + "leaves it off.");
+        keepGoing(0, JobServer.STATUS_SKIPPED);
+        keepGoing(1, JobServer.STATUS_RUNNING);
     }
 
     private static void keepGoing(int asked, int other) {

@@ -24,7 +24,8 @@ public final class Promise02AddPrereqTest {
     }
 
     private static void bothKindsAreRecorded() {
-        due.sentence("ORDER_ONLY if orderOnly is true, otherwise NORMAL");
+        due.sentence("makes p a prerequisite of t: ORDER_ONLY if orderOnly is true, otherwise "
+                + "NORMAL.");
         int[][] pairs = {{0, 1}, {1, 0}, {0, 31}, {31, 0}, {30, 31}, {31, 30}, {15, 16}};
         for (int[] pair : pairs) {
             int t = pair[0];
@@ -241,7 +242,8 @@ public final class Promise02AddPrereqTest {
     }
 
     private static void severalReasonsToRefuse() {
-        due.sentence("The call is refused (answers false) at the first test that holds");
+        due.sentence("The call is refused (answers false) at the first test that holds, tested in "
+                + "this order:");
         JobServer x = new JobServer(5, 1, 0);
         x.setSubmake(0);
         x.setSub(1);

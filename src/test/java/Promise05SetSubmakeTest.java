@@ -87,8 +87,8 @@ public final class Promise05SetSubmakeTest {
     }
 
     private static void onlyTheLevelChanges() {
-        due.sentence("only the level of s changes (its edges in either direction, timestamp and "
-                + "command are kept).");
+        due.sentence("Otherwise the call answers true; only the level of s changes (its edges in "
+                + "either direction, timestamp and command are kept).");
         JobServer x = new JobServer(5, 2, 0);
         x.addPrereq(1, 0, false);
         x.addPrereq(1, 4, true);

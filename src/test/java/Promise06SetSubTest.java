@@ -135,7 +135,7 @@ public final class Promise06SetSubTest {
     }
 
     private static void onlyTheLevelChanges() {
-        due.sentence("only the level of t changes.");
+        due.sentence("Otherwise the call answers true; only the level of t changes.");
         JobServer x = new JobServer(4, 3, 0);
         x.setSubmake(0);
         x.setTime(2, 8);

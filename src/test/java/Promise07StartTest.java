@@ -76,7 +76,8 @@ public final class Promise07StartTest {
     }
 
     private static void settleRunsWithinStart() {
-        due.sentence("SETTLE runs at the end of start()");
+        due.sentence("SETTLE runs at the end of start() and at the end of every tick().",
+                "start()");
         JobServer x = new JobServer(5, 2, 0);
         x.setTime(0, 3);
         x.setTime(1, 3);

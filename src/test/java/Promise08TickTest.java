@@ -16,6 +16,7 @@ public final class Promise08TickTest {
         submakeFailsWithASkippedSub();
         submakeIsRemadeWithGoodSubs();
         submakeWithoutSubs();
+        theStepsGoInOrder();
         settleComesLast();
         onlyFinishedTargetsAreCounted();
         theGreatestAnswer();
@@ -71,8 +72,8 @@ public final class Promise08TickTest {
     }
 
     private static void onlyRunningTargetsGoOn() {
-        due.sentence("each RUNNING target other than the sub-make target has its remaining time "
-                + "lowered by 1.");
+        due.sentence("For t = 0..n-1 ascending, each RUNNING target other than the sub-make "
+                + "target has its remaining time lowered by 1.");
         JobServer x = new JobServer(4, 2, 0);
         x.setCommand(0, 3, false);
         x.setCommand(1, 4, false);
@@ -265,6 +266,26 @@ public final class Promise08TickTest {
         due.ticks(later, 0, 0, 0, 1, 1, -1);
         due.startedAt(later, 4, 0);
         due.finishedAt(later, 5, 4);
+    }
+
+    /** 1 ends in step 2, so 0 in step 3, so 2 starts in step 4: all in one tick. */
+    private static void theStepsGoInOrder() {
+        due.sentence("Otherwise these steps happen in order:");
+        JobServer x = new JobServer(4, 1, 1);
+        x.setSubmake(0);
+        x.setSub(1);
+        x.setCommand(1, 3, false);
+        x.addPrereq(2, 0, false);
+        x.setTime(2, JobServer.MAX_TIME);
+        x.setTime(3, 1);
+        x.addPrereq(3, 0, true);
+        x.start();
+        due.statuses("at the start", x, 1, 1, 0, 0);
+        due.ticks(x, 0, 0);
+        due.statuses("1 still runs", x, 1, 1, 0, 0);
+        due.changes("tick() no. 3", x, s -> s.tick(), 2, "status(1)=2", "finishedAt(1)=3",
+                "timeOf(1)=1000003", "status(0)=2", "finishedAt(0)=3", "timeOf(0)=1000003",
+                "status(2)=1", "startedAt(2)=3", "status(3)=3", "finishedAt(3)=3");
     }
 
     private static void settleComesLast() {

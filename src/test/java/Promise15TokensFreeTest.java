@@ -81,7 +81,8 @@ public final class Promise15TokensFreeTest {
     }
 
     private static void givenBackWhenAJobEnds() {
-        due.sentence("using the current counts r0 and r1.");
+        due.sentence("answers tokensFree as defined under Tokens, using the current counts r0 and "
+                + "r1.");
         JobServer x = new JobServer(4, 4, 1);
         x.setCommand(0, 4, false);
         x.setCommand(1, 3, true);

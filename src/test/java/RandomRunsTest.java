@@ -15,6 +15,8 @@ public final class RandomRunsTest {
     private String name;
 
     public static void main(String[] args) {
+        due.sentence("every answer and every status, timestamp, startedAt and finishedAt equal "
+                + "what the rules above give.");
         // After a wrong answer the two go apart, and all that follows says nothing more.
         for (int build = 0; build < BUILDS && !due.anyWrong(); build++) {
             new RandomRunsTest().run(build);

@@ -3,6 +3,7 @@ public final class TermsSettleTest {
     private static final Due due = new Due();
 
     public static void main(String[] args) {
+        settleRunsInEveryTick();
         passesGoOnAfterUpToDate();
         passesGoOnAfterSkipped();
         passesGoOnAfterRunning();
@@ -21,6 +22,7 @@ public final class TermsSettleTest {
         rule5NeedsBoth();
         rule6NeedsNoToken();
         rule7StartsWithAllItsTime();
+        rule7GivesTheSubmakeTargetNoTime();
         rule8LetsTheRestWait();
         othersAreLeftAsTheyAre();
         everyDoneStatusHasItsClock();
@@ -34,6 +36,32 @@ public final class TermsSettleTest {
         stepsNeedKeepGoingOff();
         theSubmakeTargetEndsATickAfterStepA();
         due.end();
+    }
+
+    /** A chain, in which each tick has one thing to settle: it starts, is up to date or skipped. */
+    private static void settleRunsInEveryTick() {
+        due.sentence("SETTLE runs at the end of start() and at the end of every tick().",
+                "tick()");
+        JobServer x = new JobServer(7, 1, 1);
+        for (int t = 1; t < 7; t++) {
+            x.addPrereq(t, t - 1, t % 2 == 0);
+        }
+        x.setTime(2, 1);
+        x.setCommand(5, 1, true);
+        x.start();
+        due.statuses("at the start", x, 1, 0, 0, 0, 0, 0, 0);
+        due.ticks(x, 1);
+        due.statuses("1 starts", x, 2, 1, 0, 0, 0, 0, 0);
+        due.ticks(x, 1);
+        due.statuses("2 is up to date, 3 starts", x, 2, 2, 3, 1, 0, 0, 0);
+        due.ticks(x, 1);
+        due.statuses("4 starts", x, 2, 2, 3, 2, 1, 0, 0);
+        due.ticks(x, 1);
+        due.statuses("5 starts", x, 2, 2, 3, 2, 2, 1, 0);
+        due.ticks(x, 1);
+        due.statuses("6 is skipped", x, 2, 2, 3, 2, 2, 4, 5);
+        due.startedAt(x, 0, 1, -1, 2, 3, 4, -1);
+        due.finishedAt(x, 1, 2, 2, 3, 4, 5, 5);
     }
 
     private static void passesGoOnAfterUpToDate() {
@@ -169,7 +197,8 @@ public final class TermsSettleTest {
 
     /** The sub targets are up to date or wait for one another: rules 4, 5 and 6 would apply too. */
     private static void rule1GoesBeforeAllOthers() {
-        due.sentence("the first rule that applies is used", "rule 1");
+        due.sentence("For each t whose status is WAITING, the first rule that applies is used:",
+                "rule 1");
         JobServer x = new JobServer(6, 2, 1);
         x.setSubmake(4);
         x.addPrereq(4, 5, false);
@@ -379,6 +408,21 @@ public final class TermsSettleTest {
         due.finishedAt(x, 4, 19, 21);
     }
 
+    private static void rule7GivesTheSubmakeTargetNoTime() {
+        due.sentence("its duration (the sub-make target has none).");
+        for (int duration = 1; duration <= JobServer.MAX_DURATION; duration++) {
+            JobServer x = new JobServer(3, 1, 0);
+            x.setSubmake(0);
+            x.setCommand(0, duration, false);
+            x.setSub(1);
+            x.setCommand(1, 5, false);
+            x.start();
+            due.startedAt(x, 0, 0, -1);
+            due.ticks(x, 0, 0, 0, 0, 2, 1, -1);
+            due.finishedAt(x, 5, 5, 6);
+        }
+    }
+
     private static void rule8LetsTheRestWait() {
         due.sentence("otherwise nothing happens.");
         JobServer x = new JobServer(3, 1, 0);
@@ -552,7 +596,8 @@ public final class TermsSettleTest {
     }
 
     private static void stepsNeedAFailure() {
-        due.sentence("only if keep-going is off and the failure flag is set", "no failure");
+        due.sentence("After the passes, and only if keep-going is off and the failure flag is set",
+                "no failure");
         JobServer x = new JobServer(4, 1, 0);
         x.setSubmake(0);
         x.setSub(1);
@@ -563,7 +608,8 @@ public final class TermsSettleTest {
     }
 
     private static void stepsNeedKeepGoingOff() {
-        due.sentence("only if keep-going is off and the failure flag is set", "keep-going on");
+        due.sentence("After the passes, and only if keep-going is off and the failure flag is set",
+                "keep-going on");
         JobServer x = new JobServer(5, 1, 1);
         x.setSubmake(0);
         x.setSub(1);
