@@ -11,7 +11,7 @@ import java.util.List;
 import java.util.regex.Matcher;
 import java.util.regex.Pattern;
 
-/** What README.md says must hold as it is written. Run from the project's root. */
+/** The example, the commands and the names in README.md must hold. Run from the project's root. */
 public final class ReadmeTest {
     private static final Path TESTS = Path.of("src/test/java");
     private static final Due due = new Due();
